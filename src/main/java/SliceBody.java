@@ -235,7 +235,7 @@ public final class SliceBody {
 
     /** The cubes one above the other at one x and y as bits: bit z is set where a cube is. */
     private static final class Column {
-        static final int MOST = 8;
+        static final int MOST = MOST_SIZE;
         static final int FULL = 255;
 
         static boolean hasBit(int bits, int place) {

@@ -554,6 +554,11 @@ public final class PromisesTest {
         due("all of axis 0", 15, b.told(4));
         due("all of axis 1", 7, b.told(5));
         due("cover as answered", 9, b.cover());
+        b.space(1, 2, 8);
+        cube(b, 0, 0, 3);
+        b.box(0, 1, 0, 1, 1, 8, true);
+        due("by how many cubes, not how many columns", 8, b.best(0, 1));
+        due("it is at 1 again", 2, b.told(5));
     }
 
     private static void bestOfLikeOnes() {
@@ -582,6 +587,14 @@ public final class PromisesTest {
         b.box(0, 0, 1, 1, 1, 1, false);
         due("all is covered by axis 0", 5, b.best(1, 1));
         due("across where nothing catches", 2, b.told(5));
+        b.space(1, 1, 3);
+        cube(b, 0, 0, 0);
+        cube(b, 0, 0, 2);
+        due("the only ones there are", 2, b.best(1, 1));
+        due("the only one of axis 0", 1, b.told(4));
+        due("the only one of axis 1", 1, b.told(5));
+        due("though they catch", 1, b.caught(-1));
+        due("at x 0, y 0", 0, b.caught(0));
         b.space(8, 8, 8);
         b.box(0, 0, 0, 8, 8, 8, true);
         due("four and four of the greatest", 384, b.best(4, 4));
@@ -700,6 +713,8 @@ public final class PromisesTest {
         due("nothing", NONE, b.laid(0, 0));
         due("nothing at the least", 0, b.least());
         cube(b, 2, 3, 1);
+        due("each on the least board", 2, b.lay(1, 1, 0));
+        due("no fewer", 2, b.least());
         due("two of one cube", 1, b.lay(2, 1, 0));
         dueLaid(b, 0, 0, 2, 0, 0, 0, 1, 1);
         dueLaid(b, 1, 1, 3, 0, 1, 0, 1, 1);
