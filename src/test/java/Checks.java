@@ -5,6 +5,12 @@ import java.util.function.ToIntFunction;
 final class Checks {
     private int made = 0;
     private int wrong = 0;
+    private String sentence = "";
+
+    /** The words of the document that the checks from here on are about. */
+    void sentence(String words) {
+        sentence = words;
+    }
 
     void due(String what, long want, long got) {
         made++;
@@ -35,6 +41,21 @@ final class Checks {
         }
     }
 
+    /** Refused whatever the object's state: a new one, laid, told something since, the least, the greatest. */
+    void refused(String what, long want, ToIntFunction<SliceBody> call) {
+        changesNothing(what + ", new", SliceBody::new, want, call);
+        changesNothing(what + ", laid", Bodies::full, want, call);
+        changesNothing(what + ", told since", Bodies::fullUnlaid, want, call);
+        refusedOf(what, Bodies.SIZES[0], want, call);
+        refusedOf(what, Bodies.SIZES[1], want, call);
+    }
+
+    /** Refused in a space of this size. */
+    void refusedOf(String what, int[] size, long want, ToIntFunction<SliceBody> call) {
+        String where = what + " in " + size[0] + " by " + size[1] + " by " + size[2];
+        changesNothing(where, () -> Bodies.laidOut(size), want, call);
+    }
+
     void end(String name) {
         System.out.println(name + ": " + made + " checks, " + wrong + " wrong");
         if (wrong != 0 || made == 0) {
@@ -44,6 +65,6 @@ final class Checks {
 
     private void fail(String text) {
         wrong++;
-        System.out.println(text);
+        System.out.println((sentence.isEmpty() ? "" : "'" + sentence + "': ") + text);
     }
 }

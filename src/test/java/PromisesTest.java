@@ -52,26 +52,16 @@ public final class PromisesTest {
         checks.changesNothing(what, PromisesTest::full, want, call);
     }
 
-    /** 3 wide, 2 deep, 5 high, with a gap, ribs of both axes, and laid. */
     private static SliceBody full() {
-        SliceBody b = new SliceBody();
-        b.space(3, 2, 5);
-        b.box(0, 0, 0, 3, 2, 5, true);
-        b.box(1, 1, 2, 1, 1, 1, false);
-        b.ribs(0, 6);
-        b.ribs(1, 3);
-        b.lay(20, 9, 2);
-        return b;
+        return Bodies.full();
     }
 
     private static SliceBody of(int x, int y, int z) {
-        SliceBody b = new SliceBody();
-        b.space(x, y, z);
-        return b;
+        return Bodies.of(x, y, z);
     }
 
     private static void cube(SliceBody b, int x, int y, int z) {
-        b.box(x, y, z, 1, 1, 1, true);
+        Bodies.cube(b, x, y, z);
     }
 
     // ---- the constants, promise 1
@@ -645,14 +635,8 @@ public final class PromisesTest {
         }
     }
 
-    /** Figures of axis 1, w wide and h high, at places one behind the other; nothing crosses. */
     private static SliceBody figures(int[] wide, int[] high) {
-        SliceBody b = of(8, wide.length, 8);
-        for (int y = 0; y < wide.length; y++) {
-            b.box(0, y, 0, wide[y], 1, high[y], true);
-        }
-        b.ribs(1, (1 << wide.length) - 1);
-        return b;
+        return Bodies.figures(wide, high);
     }
 
     private static void layInOrder() {
