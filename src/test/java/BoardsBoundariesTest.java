@@ -518,6 +518,12 @@ public final class BoardsBoundariesTest {
         due("just two", 2, b.least());
         due("24 by 60 60", 1, b.lay(60, 60, 0));
         due("far less than one", 1, b.least());
+        SliceBody ones = Bodies.filled(5, 1, 1);
+        ones.ribs(0, 31);
+        due("five on the least boards", 5, ones.lay(1, 1, 0));
+        due("5 by 1", 5, ones.least());
+        due("five on boards of two", 3, ones.lay(2, 1, 0));
+        due("5 by 2", 3, ones.least());
         due("with the kerf: 40 by 40", 1, b.lay(10, 4, 1));
         due("just so with it", 1, b.least());
         due("with the kerf: 40 by 36", 2, b.lay(9, 4, 1));

@@ -17,6 +17,7 @@ public final class TogetherBoundariesTest {
         coverEachOnce();
         coverOfAllAndNone();
         bestJustSoMany();
+        bestOfThoseThereAre();
         bestNoneAndAll();
         bestGreatestCover();
         bestCoverAheadOfCaught();
@@ -231,6 +232,20 @@ public final class TogetherBoundariesTest {
                     dueBest("empty, " + a + " and " + c, empty, a, c, 0, (1 << a) - 1, (1 << c) - 1);
                 }
             }
+        }
+    }
+
+    /** All crossings catch, so that a rib beyond the space, were there one, would be the better one. */
+    private static void bestOfThoseThereAre() {
+        checks.sentence("a RIBS of axis 0 and b of axis 1: of those at 0 to X - 1, 0 to Y - 1");
+        for (int side = 1; side <= 8; side++) {
+            SliceBody b = Bodies.filled(side, side, 3);
+            b.box(0, 0, 1, 8, 8, 1, false);
+            int all = (1 << side) - 1;
+            dueBest("one of axis 0, all of axis 1, of " + side, b, 1, side, 2 * side * side, 1, all);
+            due("all of its crossings catch", side, b.caught(-1));
+            dueBest("all of axis 0, one of axis 1, of " + side, b, side, 1, 2 * side * side, all, 1);
+            due("all of these catch too", side, b.caught(-1));
         }
     }
 
