@@ -370,6 +370,8 @@ public final class SliceBody {
         private static final int MOST_COLUMNS = Column.MOST * Column.MOST;
         /** A cube outweighs all crossings that can be caught, of which there are 64 at most. */
         private static final int CUBE_WORTH = 128;
+        /** Less than any worth: a caught crossing is outweighed by its own cubes. */
+        private static final int NO_WORTH = -1;
 
         private final int[] columns;
         private final int[] gains;
@@ -565,7 +567,7 @@ public final class SliceBody {
         void chooseBest(int a, int b) {
             int bestAtX = 0;
             int bestAtY = 0;
-            int bestWorth = Integer.MIN_VALUE;
+            int bestWorth = NO_WORTH;
             for (int atX = 0; atX < 1 << wide; atX++) {
                 if (Integer.bitCount(atX) == a) {
                     reckonGains(atX);

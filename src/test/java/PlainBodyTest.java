@@ -31,6 +31,9 @@ public final class PlainBodyTest {
             while (test.calls < CALLS - MOST_CALLS_OF_A_STEP) {
                 test.oneStep();
             }
+            while (test.calls < CALLS) {
+                test.oneQuestion();
+            }
         }
         checks.end("PlainBodyTest");
     }
@@ -81,6 +84,15 @@ public final class PlainBodyTest {
             togetherQuestion();
         } else {
             boardsCall();
+        }
+    }
+
+    /** One call, so that a run can be filled up to its last. */
+    private void oneQuestion() {
+        if (random.nextBoolean()) {
+            solidQuestion();
+        } else {
+            togetherQuestion();
         }
     }
 

@@ -11,6 +11,7 @@ public final class PromisesTest {
     public static void main(String[] args) {
         constants();
         newObject();
+        objectsStandAlone();
         space();
         boxPutsIn();
         boxAtTheEdges();
@@ -88,11 +89,22 @@ public final class PromisesTest {
         due("new: caught", 0, b.caught(-1));
         due("new: laid", STATE, b.laid(0, 0));
         due("new: least", STATE, b.least());
-        SliceBody other = new SliceBody();
-        other.box(0, 0, 0, 4, 4, 4, true);
-        other.ribs(0, 15);
-        due("objects stand alone: cubes", 0, b.told(3));
-        due("objects stand alone: ribs", 0, b.told(4));
+    }
+
+    /** What is told to one object is nothing to another, nor to one that is made later. */
+    private static void objectsStandAlone() {
+        SliceBody first = full();
+        SliceBody other = figures(new int[] {4, 3, 2}, new int[] {2, 2, 2});
+        due("the other is laid", 2, other.lay(8, 2, 0));
+        checks.holds("the first is as it was", Sight.of(first).equals(Sight.of(full())));
+        due("the other is told something", 12, other.best(1, 1));
+        due("the first is laid still", 1, first.laid(0, 0));
+        due("the first is told something", 1, first.rib(0, 1, true));
+        due("the other is laid again", 1, other.lay(60, 60, 0));
+        due("the first is not", STATE, first.least());
+        due("the other has a space of its own", 8, other.space(2, 2, 2));
+        due("the first keeps its", 29, first.told(3));
+        checks.holds("a new one is new", Sight.of(new SliceBody()).equals(Sight.of(of(4, 4, 4))));
     }
 
     // ---- promise 2
